@@ -467,6 +467,24 @@ public final class PromiseTest {
         due("14: total(0, 15) of nine", nine.total(0, 15), 1);
         takenBackCountsNoMore();
         refusedCallsTakeNoPlace();
+        formulasComeBackWhole();
+    }
+
+    /** More than eight changes, so that the row has moved up before formulas come back out of it. */
+    private static void formulasComeBackWhole() {
+        BlockSheet x = new BlockSheet();
+        x.put(4, 3);
+        x.put(5, 8);
+        for (int operation = 0; operation < 4; operation++) {
+            x.formula(0, operation, 4, 5);
+            x.offset(0, 10 * operation);
+            x.put(0, -1);
+        }
+        for (int want : new int[] {32, 2, -1, 23, 3, -1, 18, 8}) {
+            due("14: undo() of a formula's cell", x.undo(), 0);
+            due("14: value(0) out of the row", x.value(0), want);
+        }
+        due("14: undo() of no more", x.undo(), -1);
     }
 
     private static void takenBackCountsNoMore() {
