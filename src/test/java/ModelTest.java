@@ -8,6 +8,9 @@ import java.util.List;
 public final class ModelTest {
     private static final int RUNS = 1000;
     private static final int CALLS = 512;
+    // The shapes of a run: 0 any rectangle, 1 and 2 rectangles of that reach, 3 chains.
+    private static final int SHAPES = 4;
+    private static final int CHAINS = 3;
     private static final int[] WRONG_CELLS = {-1, 16, 31, Integer.MIN_VALUE, Integer.MAX_VALUE};
     private static final int[] EDGE_NUMBERS = {Integer.MIN_VALUE, Integer.MAX_VALUE, 0, 1, -1, 1 << 30};
 
@@ -228,11 +231,17 @@ public final class ModelTest {
         return next(40) == 0 ? next(2) * 5 - 1 : next(4);
     }
 
+    /** In a run of chains the next cell, since chains seldom grow long by chance. */
+    private static int nextSource(int cell, int shape) {
+        return shape == CHAINS && next(40) != 0 ? cell + 1 & 15 : nextCell();
+    }
+
     /** The other corner: in some runs a near one, since wide rectangles break most of the sheet. */
-    private static int nextCorner(int a, int reach) {
-        if (!isCell(a) || reach == 0 || next(40) == 0) {
+    private static int nextCorner(int a, int shape) {
+        if (!isCell(a) || shape == 0 || next(40) == 0) {
             return nextCell();
         }
+        int reach = shape == CHAINS ? 0 : shape;
         int r = Math.min(3, Math.max(0, a / 4 + next(2 * reach + 1) - reach));
         int c = Math.min(3, Math.max(0, a % 4 + next(2 * reach + 1) - reach));
         return 4 * r + c;
@@ -251,15 +260,21 @@ public final class ModelTest {
         return answer ? 1 : 0;
     }
 
-    private static void change(int run, int call, BlockSheet x, Model m, int reach) {
+    /** In a run of chains formulas take the place of most puts, since a constant ends a chain. */
+    private static int nextChange(int shape) {
+        int change = next(8);
+        return shape == CHAINS && change < 2 ? 3 : change;
+    }
+
+    private static void change(int run, int call, BlockSheet x, Model m, int shape) {
         int cell = nextCell();
         int v = nextNumber();
-        switch (next(8)) {
+        switch (nextChange(shape)) {
             case 0, 1, 2 -> due(run, call, "put(" + cell + ", " + v + ")", number(x.put(cell, v)), m.put(cell, v));
             case 3, 4 -> {
                 int operation = nextOperation();
-                int a = nextCell();
-                int b = nextCorner(a, reach);
+                int a = nextSource(cell, shape);
+                int b = nextCorner(a, shape);
                 String name = "formula(" + cell + ", " + operation + ", " + a + ", " + b + ")";
                 due(run, call, name, number(x.formula(cell, operation, a, b)), m.formula(cell, operation, a, b));
             }
@@ -268,9 +283,9 @@ public final class ModelTest {
         }
     }
 
-    private static void question(int run, int call, BlockSheet x, Model m, int reach) {
+    private static void question(int run, int call, BlockSheet x, Model m, int shape) {
         int a = nextCell();
-        int b = nextCorner(a, reach);
+        int b = shape == CHAINS ? nextCell() : nextCorner(a, shape);
         switch (next(8)) {
             case 0 -> due(run, call, "value(" + a + ")", x.value(a), m.value(a));
             case 1 -> due(run, call, "broken(" + a + ")", number(x.broken(a)), m.broken(a));
@@ -288,12 +303,12 @@ public final class ModelTest {
             state = run;
             BlockSheet x = new BlockSheet();
             Model m = new Model();
-            int reach = run % 3;
+            int shape = run % SHAPES;
             for (int call = 1; call <= CALLS; call++) {
                 if (next(2) == 0) {
-                    change(run, call, x, m, reach);
+                    change(run, call, x, m, shape);
                 } else {
-                    question(run, call, x, m, reach);
+                    question(run, call, x, m, shape);
                 }
             }
         }

@@ -104,6 +104,7 @@ public final class PromiseTest {
         due("3: value(15) after refused formulas", x.value(15), 50);
         due("3: undo() after refused formulas", x.undo(), 15);
         negativesAlone();
+        everyCellIsRead();
         everyRectangle();
     }
 
@@ -136,6 +137,22 @@ public final class PromiseTest {
         x.put(8, MAX);
         x.put(9, MAX);
         due("3: LEAST of greatest ints", x.value(1), MAX);
+    }
+
+    /** Each operation over each cell alone, with the numbers nearest to 0. */
+    private static void everyCellIsRead() {
+        BlockSheet x = new BlockSheet();
+        for (int cell = 0; cell < 16; cell++) {
+            int holder = cell + 1 & 15;
+            for (int operation = 0; operation < 4; operation++) {
+                x.formula(holder, operation, cell, cell);
+                for (int v : new int[] {1, -1}) {
+                    x.put(cell, v);
+                    int want = operation == BlockSheet.UP ? Math.max(v, 0) : v;
+                    due("3: operation " + operation + " over cell " + cell, x.value(holder), want);
+                }
+            }
+        }
     }
 
     private static int rectangle(int a, int b) {
