@@ -1,3 +1,4 @@
+import com.sun.source.tree.ArrayAccessTree;
 import com.sun.source.tree.ArrayTypeTree;
 import com.sun.source.tree.AssignmentTree;
 import com.sun.source.tree.BinaryTree;
@@ -37,7 +38,7 @@ import javax.tools.ToolProvider;
  * The rules of LANGUAGE.md that can be read off the source: all but 7, and of 1 what FaceTest
  * does not look at. Some are held more strictly than they are written, because the class can
  * do with less: every loop is a for loop that counts up to a constant, and every array is made
- * in the initialiser of a final field and named by that field alone.
+ * in the initialiser of a final field and used through that field's name with an index.
  */
 public final class LanguageTest {
     private static final String SOURCE = "src/main/java/BlockSheet.java";
@@ -57,7 +58,8 @@ public final class LanguageTest {
 
     private final CompilationUnitTree unit;
     private final SourcePositions positions;
-    private final Set<String> constants = new TreeSet<>();
+    private final Map<String, String> constants = new TreeMap<>();
+    private final Set<String> arrays = new TreeSet<>();
     private final Map<String, Set<String>> calls = new TreeMap<>();
 
     private LanguageTest(CompilationUnitTree unit, SourcePositions positions) {
@@ -85,7 +87,13 @@ public final class LanguageTest {
         if (tree instanceof UnaryTree unary) {
             return unary.getKind() == Kind.UNARY_MINUS && isConstant(unary.getExpression());
         }
-        return tree instanceof LiteralTree || tree instanceof IdentifierTree && constants.contains(tree.toString());
+        return tree instanceof LiteralTree || tree instanceof IdentifierTree && constants.containsKey(tree.toString());
+    }
+
+    /** A constant, 1 or more. */
+    private boolean isLength(Tree tree) {
+        String text = tree.toString();
+        return isConstant(tree) && constants.getOrDefault(text, text).matches("[1-9][0-9]*");
     }
 
     private void lookAtFile() {
@@ -121,8 +129,9 @@ public final class LanguageTest {
         if (has(field, Modifier.STATIC)) {
             hold(5, has(field, Modifier.FINAL) && isConstant(first), field, "no constant: " + field);
             hold(5, type.equals("int") || type.equals("long"), field, "a static " + type);
-            constants.add(field.getName().toString());
+            constants.put(field.getName().toString(), String.valueOf(first));
         } else if (field.getType() instanceof ArrayTypeTree) {
+            arrays.add(field.getName().toString());
             hold(4, has(field, Modifier.FINAL), field, "an array that could become another: " + field);
             hold(4, first instanceof NewArrayTree, field, "an array that is not made at once: " + field);
         } else {
@@ -156,7 +165,7 @@ public final class LanguageTest {
         }
     }
 
-    /** What holds inside methods alone: own methods are called, and no array is made or named. */
+    /** What holds inside methods alone: own methods are called, no array is made or used whole. */
     private final class MethodBody extends TreeScanner<Void, Void> {
         private final String method;
         private int callsAround = 0;
@@ -175,6 +184,21 @@ public final class LanguageTest {
         public Void visitVariable(VariableTree tree, Void unused) {
             hold(4, !(tree.getType() instanceof ArrayTypeTree), tree, method + " names an array");
             return super.visitVariable(tree, unused);
+        }
+
+        /** Only the places of an array are used, so it is never compared, handed on or assigned. */
+        @Override
+        public Void visitArrayAccess(ArrayAccessTree tree, Void unused) {
+            if (!arrays.contains(tree.getExpression().toString())) {
+                scan(tree.getExpression(), unused);
+            }
+            return scan(tree.getIndex(), unused);
+        }
+
+        @Override
+        public Void visitIdentifier(IdentifierTree tree, Void unused) {
+            hold(4, !arrays.contains(tree.toString()), tree, "an array without an index: " + tree);
+            return super.visitIdentifier(tree, unused);
         }
 
         @Override
@@ -229,14 +253,14 @@ public final class LanguageTest {
         @Override
         public Void visitMemberSelect(MemberSelectTree tree, Void unused) {
             boolean own = tree.getExpression().toString().equals("this");
-            hold(3, own || tree.getIdentifier().contentEquals("length"), tree, "the name " + tree);
+            hold(3, own, tree, "the name " + tree);
             return super.visitMemberSelect(tree, unused);
         }
 
         @Override
         public Void visitNewArray(NewArrayTree tree, Void unused) {
             boolean plain = tree.getInitializers() == null && tree.getDimensions().size() == 1;
-            hold(4, plain && isConstant(tree.getDimensions().get(0)), tree, "no constant length: " + tree);
+            hold(4, plain && isLength(tree.getDimensions().get(0)), tree, "no constant length: " + tree);
             return super.visitNewArray(tree, unused);
         }
 
